@@ -323,7 +323,7 @@ public final class SurpriseTax {
 
         /** Answers the FAULT; only when there is none, realm and state are what THE TEXT tells. */
         int read(Realm realm, State state) {
-            realm.clear();
+            realm.sendAllAway();
             state.clear();
             at = 0;
             fault = NONE;
@@ -411,20 +411,15 @@ public final class SurpriseTax {
         private int rate = 0;
         private int free = 0;
         private int price = 0;
+        /** MOST_PEOPLE at most, as readPart sees to it: so the rows hold all of them. */
         private int people = 0;
         private int roadCount = 0;
 
-        void clear() {
-            rate = 0;
-            free = 0;
-            price = 0;
+        /** The law and the NERVES stay, for whoever tells them anew writes over them. */
+        void sendAllAway() {
             people = 0;
             roadCount = 0;
-            for (int kind = 0; kind < KINDS; kind++) odds[kind] = 0;
-            for (int person = 0; person < MOST_PEOPLE; person++) {
-                nerve[person] = 0;
-                roads[person] = 0;
-            }
+            for (int person = 0; person < MOST_PEOPLE; person++) roads[person] = 0;
         }
 
         boolean has(int person) {
@@ -693,9 +688,10 @@ public final class SurpriseTax {
         private final int[] person = new int[MOST_ROLLS];
         private final int[] paid = new int[MOST_ROLLS];
         private int count = 0;
+        /** Of the TALES read last: how many fit, by which KINDS, and who is in all of them. */
         private int fitting = 0;
         private int kinds = 0;
-        private int sure = NONE;
+        private int sure = 0;
 
         int count() {
             return count;
@@ -813,7 +809,7 @@ public final class SurpriseTax {
             return weight;
         }
 
-        /** One that has DECLARED has no choice any more. */
+        /** One that has DECLARED has no choice any more. Leaves trial as it tried last. */
         private void choose(Realm realm, int person) {
             choice = NONE;
             tenfold = realm.meanTenfold(trial, person);
@@ -826,7 +822,6 @@ public final class SurpriseTax {
                     tenfold = other;
                 }
             }
-            trial.setDeclared(person, NONE);
         }
     }
 

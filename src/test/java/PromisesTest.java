@@ -161,6 +161,9 @@ public final class PromisesTest {
         fault("T0001234T", 8);
         fault("T0001234p", 8);
         fault("T0001234R", 8);
+        // bytes that were wiped are not read again
+        fault("", 0);
+        fault("T000123", 7);
     }
 
     private void faultOfPeople() {
@@ -361,6 +364,11 @@ public final class PromisesTest {
         habit(0, 2, 3, 2, 3);
         habit(1, 1, 1, 2, 6);
         is("COINS of 2, in DEBT", x.person(2, 4), 99986);
+        is("COINS of 1, in DEBT", x.person(1, 4), 99992);
+        is("about(6)", x.about(6), 6);
+        write("T2130325P432131");
+        is("realm() of fewer", x.realm(), 1);
+        is("about(6)", x.about(6), 0);
         eventOnNews();
         eventOfTheExpected();
     }
@@ -686,6 +694,8 @@ public final class PromisesTest {
         is("reform(0) without COINS: FREE 6", x.reform(0), 96);
         x.event(0);
         is("reform(0) in DEBT", x.reform(0), NONE);
+        make("T9901234P901000");
+        is("reform(3), 9 is the most FREE", x.reform(3), 9);
         make("T1001234P432100");
         is("reform(3)", x.reform(3), 0);
         make("T1801234P432100");
@@ -945,6 +955,9 @@ public final class PromisesTest {
         make(HALVES);
         x.seed(1);
         is("week(4)", x.week(4), 1000030 - 5 - 4 - 7 - 4);
+        write("T1001234");
+        is("realm() of nobody", x.realm(), 0);
+        is("week(2)", x.week(2), 1000000);
         make("T9000019P550000");
         x.seed(0);
         is("week(30), in DEBT", x.week(30) < 1000000 ? 1 : 0, 1);
