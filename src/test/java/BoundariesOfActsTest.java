@@ -288,8 +288,8 @@ public final class BoundariesOfActsTest {
 
     /** After each habit: which KIND comes, and the habit behind it. */
     private void habits() {
-        b.sentence("Terms 1", "the KIND that came is EXPECTED by one tenth more, the one of the others that is EXPECTED most "
-            + "(of like ones the least) by one less (if it is EXPECTED by 10 already, nothing moves);");
+        b.sentence("Terms 1", "AN EVENT: each pays its TAX; then its HABIT learns: the KIND that came is EXPECTED by one tenth more, "
+            + "the one of the others that is EXPECTED most (of like ones the least) by one less (if it is EXPECTED by 10 already, nothing moves);");
         habit("9100", 0, 10, 0, 0, 0);
         habit("9010", 0, 10, 0, 0, 0);
         habit("0019", 3, 0, 0, 0, 10);

@@ -148,7 +148,9 @@ public final class BoundariesOfPaymentsTest {
         b.each("counsel(?)", UNKNOWN, NOBODY);
         b.still("counsel(0)", LATE);
         b.make(LINE);
-        b.still("counsel(0)", 3);
+        // 12 by DECLARING 3: 14.4, 11.6 and 11 without
+        b.row("counsel(?)", 3, NONE, NONE);
+        b.row("counsel(?)", 3, NONE, NONE);
         b.go("declare(0, 0)");
         b.still("counsel(0)", LATE);
         b.go("event(0)");
@@ -214,6 +216,14 @@ public final class BoundariesOfPaymentsTest {
         // 9 today, whatever PRICE was; then 8 and 1 by DECLARING 3
         least(1, 9, 1);
         least(2, 18, 1);
+        b.make("T1070019P550090");
+        b.go("declare(0, 2)");
+        // 9 today, though 7 and 1 would be less: it has DECLARED
+        least(1, 9, 1);
+        least(2, 17, 1);
+        b.make("T1070019P550090");
+        least(1, 8, 1);
+        least(2, 16, 1);
         b.sentence("Terms 2", "(its HABIT learns; it HEARS nothing more): a FRACTION.");
         b.make("T1090019P550090P019090R01");
         // 10, then 9.9 by 4 5 1 0 (0.1) or 9.1 by 4 5 0 1 (0.9)

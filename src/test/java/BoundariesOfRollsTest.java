@@ -108,6 +108,8 @@ public final class BoundariesOfRollsTest {
     private void tales() {
         b.sentence("Promise 22", "TALES: how many FIT (what = 0), which KINDS may have come (1: bits), "
             + "who surely DECLARED it (2: bits; NONE: no TALE fits). BAD.");
+        talesRefused();
+        b.sentence("Terms 3", "How many TALES FIT; which KINDS may have come (bits); who surely DECLARED it (of those, bits).");
         b.fresh();
         talesAre(4, 15, 0);
         b.make(FIVE);
@@ -120,12 +122,19 @@ public final class BoundariesOfRollsTest {
         talesAre(8, 1, 2);
         b.go("roll(2, 6)");
         talesAre(0, 0, NONE);
-        b.each("tales(?)", BAD, "-1", "3", "LEAST", "MOST");
-        lineAtWork();
-        b.each("tales(?)", BAD, "-1", "3");
         talesNow();
         talesOfTheGone();
         talesByNews();
+    }
+
+    private void talesRefused() {
+        b.fresh();
+        b.each("tales(?)", BAD, "-1", "3", "LEAST", "MOST");
+        b.row("tales(?)", 4, 15, 0);
+        lineAtWork();
+        b.each("tales(?)", BAD, "-1", "3", "LEAST", "MOST");
+        // 2 pays 18, 18, 10, 6 or nothing, never 8
+        b.row("tales(?)", 0, 0, NONE);
     }
 
     private void talesNow() {
@@ -271,7 +280,8 @@ public final class BoundariesOfRollsTest {
         bracedIs("T0001234P123404" + calm, 1, 31, 31);
         bracedIs("T0001234P123405" + calm, 1, 30, 30);
         bracedIs("T0001234P123401P123401P123401P123401P123405R01R23", 4, 0, 15);
-        b.sentence("Promise 24", "(2: bits); NONE (of 1, 2): there is none. BAD.");
+        b.sentence("Promise 24", "BRACED: how many sets (what = 0), the least (1: bits), the greatest (2: bits); NONE (of 1, 2): there is "
+            + "none. BAD.");
         b.each("braced(?)", BAD, "-1", "3", "LEAST", "MOST");
         b.fresh();
         b.each("braced(?)", BAD, "-1", "3");

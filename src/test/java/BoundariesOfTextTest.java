@@ -220,7 +220,8 @@ public final class BoundariesOfTextTest {
         fault(four + "R01R02R03R12R13R23R", 54);
         fault(four + "R01R02R03R12R13R23" + ONE, NONE);
         fault(four + "R01R02R03R12R13R23" + ONE + "R", 61);
-        b.sentence("Terms 1", "whatever came behind it (its length set aside);");
+        b.sentence("Terms 1", "FAULT: the place (from 0) of the first byte by which THE TEXT can be no REALM, "
+            + "whatever came behind it (its length set aside);");
         fault(FIVE + SIX_ROADS + "xyz", 61);
         fault(LAW + "PPPPPPPPPPPPPPPPPPPPPPPPPPPPPPPPPPPPPPPPPPPPPPPPPPPPPPPP", 9);
         fault("T".repeat(64), 1);

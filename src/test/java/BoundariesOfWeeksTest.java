@@ -120,6 +120,17 @@ public final class BoundariesOfWeeksTest {
         b.make("T9001234P055000");
         b.go("seed(0)");
         b.due("week(1)", 1000000 - 90);
+        // five of them: 6 and 6, one DECLARED it, 3 by one that has HEARD it, 10 by one that DECLARED another one
+        b.make("T1001234" + TELLER + TELLER + TELLER + TELLER + TELLER + "R04");
+        b.go("seed(0)");
+        b.due("week(1)", 1000450 - 5 * 6);
+        b.go("seed(0)", "declare(0, 3)", "declare(1, 2)", "tellOn(0, 4)");
+        b.due("week(1)", 1000450 - 0 - 10 - 6 - 6 - 3);
+        // those that are not there any more have no COINS
+        b.text("T1001234" + TELLER);
+        b.due("realm()", 1);
+        b.go("seed(0)");
+        b.due("week(1)", 1000090 - 6);
     }
 
     private void unchanged() {
