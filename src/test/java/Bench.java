@@ -25,6 +25,7 @@ final class Bench {
     private final String test;
     private final Due due;
     private final List<String> strange = new ArrayList<>();
+    private final List<String> quoted = new ArrayList<>();
     private final String document = document();
     private String sentence = "";
     private int checksAtSentence = -1;
@@ -65,6 +66,7 @@ final class Bench {
         checkThatAskedSomething();
         sentence = place + ", \"" + words + "\"";
         checksAtSentence = due.count();
+        quoted.add(plain(words));
         if (!document.isEmpty() && !document.contains(plain(words))) strange.add(sentence);
     }
 
@@ -128,6 +130,11 @@ final class Bench {
         }
     }
 
+    /** As due, of what was asked without this bench. */
+    void equal(String what, long got, long want) {
+        due.is(at(what), got, want);
+    }
+
     /** Like still, with each of these for the sign ? in the call. */
     void each(String call, long want, String... values) {
         for (String value : values) still(call.replace("?", value), want);
@@ -136,6 +143,15 @@ final class Bench {
     /** Like due, with 0, 1, .. for the sign ? in the call. */
     void row(String call, long... wants) {
         for (int i = 0; i < wants.length; i++) due(call.replace("?", String.valueOf(i)), wants[i]);
+    }
+
+    /** Tells which words of the document no sentence has quoted; the face's calls and headings are FaceTest's. */
+    void tellUnread() {
+        String unread = words(readDocument());
+        for (String words : quoted) unread = unread.replace(words, "\n");
+        for (String left : unread.split("\n")) {
+            if (left.matches(".*\\w.*")) System.out.println(test + ": no test has asked about: " + left.trim());
+        }
     }
 
     void end() {
@@ -254,14 +270,26 @@ final class Bench {
 
     // ---- the document
 
-    /** Nothing, if it is not there: the tests do not hang on it. */
     private static String document() {
+        return plain(readDocument());
+    }
+
+    /** Nothing, if it is not there: the tests do not hang on it. */
+    private static String readDocument() {
         if (!Files.isReadable(DOCUMENT)) return "";
         try {
-            return plain(Files.readString(DOCUMENT, StandardCharsets.UTF_8));
+            return Files.readString(DOCUMENT, StandardCharsets.UTF_8);
         } catch (IOException unread) {
             return "";
         }
+    }
+
+    /** What is left without headings, marks, the face's calls and what is not promised. */
+    private static String words(String document) {
+        String told = document.replaceFirst("(?s)\n## Not promised.*", "\n");
+        told = told.replaceAll("(?m)^    public (int|long|SurpriseTax)\\b.*$|^public final class.*$|^Ahead of the calls .*$", " ");
+        told = told.replaceAll("(?m)^#.*$|^```\\w*$|^    (Pabcdmn|Rij)(?= )", " ");
+        return plain(told.replaceAll("={8} [1-4]\\b", " "));
     }
 
     private static String plain(String told) {

@@ -1,8 +1,12 @@
+import java.io.IOException;
 import java.lang.reflect.Constructor;
 import java.lang.reflect.Field;
 import java.lang.reflect.Member;
 import java.lang.reflect.Method;
 import java.lang.reflect.Modifier;
+import java.nio.charset.StandardCharsets;
+import java.nio.file.Files;
+import java.nio.file.Path;
 import java.util.Arrays;
 import java.util.List;
 import java.util.Set;
@@ -20,11 +24,21 @@ public final class FaceTest {
         "int fair(int,int,int)", "int courier(int)", "long seed(long)", "int week(int)",
         "int keep(int)", "int again(int)"};
 
+    /** "Ahead of the calls .. the interface says: ---- ..", and the calls behind each. */
+    private static final String[] SECTIONS = {
+        "---- the realm", "write", "wipe", "fault", "realm", "about", "person",
+        "---- acts", "declare", "tellOn", "event", "undo",
+        "---- what is paid", "tax", "mean", "counsel", "least", "joke", "jokeAt", "broke", "reform",
+        "---- rolls, schools, nerves", "roll", "unroll", "tales", "school", "braced", "fair", "courier", "seed", "week",
+        "---- slots", "keep", "again"};
+
     private final Due due = new Due("FaceTest");
 
-    public static void main(String[] args) {
+    public static void main(String[] args) throws IOException {
         FaceTest test = new FaceTest();
         test.face();
+        test.kindsOfMembers();
+        test.sections(Files.readString(Path.of("src/main/java/SurpriseTax.java"), StandardCharsets.ISO_8859_1));
         test.classesInside();
         test.due.end();
     }
@@ -50,6 +64,38 @@ public final class FaceTest {
         StringBuilder all = new StringBuilder(name).append('(');
         for (Class<?> type : types) all.append(all.charAt(all.length() - 1) == '(' ? "" : ",").append(type.getName());
         return all.append(')').toString();
+    }
+
+    private void kindsOfMembers() {
+        Class<?> c = SurpriseTax.class;
+        due.holds("no package", c.getPackageName().isEmpty());
+        due.holds("stands for itself", c.getSuperclass() == Object.class && c.getInterfaces().length == 0);
+        due.is("constructors", c.getDeclaredConstructors().length, 1);
+        due.is("constants", c.getFields().length, 5);
+        for (Field f : c.getFields()) {
+            int all = Modifier.PUBLIC | Modifier.STATIC | Modifier.FINAL;
+            due.holds(f + " is a constant of int", f.getModifiers() == all && f.getType() == int.class);
+        }
+        for (Method m : c.getDeclaredMethods()) {
+            if (!Modifier.isPublic(m.getModifiers())) continue;
+            due.holds(m + " is of an object", !Modifier.isStatic(m.getModifiers()));
+            due.holds(m + " tells of no exception", m.getExceptionTypes().length == 0);
+        }
+    }
+
+    /** The program's text has the calls in the document's order, and its words ahead of them. */
+    private void sections(String text) {
+        int from = 0;
+        for (String told : SECTIONS) {
+            boolean isCall = !told.startsWith("-");
+            int at = isCall ? indexOfCall(text, told) : text.indexOf("    // " + told + "\n");
+            due.holds(told + " stands in its place", at > from);
+            from = at;
+        }
+    }
+
+    private static int indexOfCall(String text, String name) {
+        return Math.max(text.indexOf("    public int " + name + "("), text.indexOf("    public long " + name + "("));
     }
 
     private void classesInside() {
